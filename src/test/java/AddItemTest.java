@@ -98,7 +98,7 @@ public final class AddItemTest {
         c.due("the alternative is still empty", x.parse(0, 0), 0);
     }
 
-    private static void kindsKeepTheFormerStateOut(Checks c) {
+    private static void nothingElseChanges(Checks c) {
         IncrementalPackrat x = new IncrementalPackrat(1, 8);
         x.newAlt(0);
         Checks.append(x, "ab");
@@ -116,7 +116,7 @@ public final class AddItemTest {
         bases(c);
         refusedItemLeavesNoTrace(c);
         frozenWithRoomLeft(c);
-        kindsKeepTheFormerStateOut(c);
+        nothingElseChanges(c);
         c.end();
     }
 }

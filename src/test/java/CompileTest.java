@@ -34,6 +34,20 @@ public final class CompileTest {
         // A rule without alternatives is not nullable, so what stands behind it is not called at start.
         answers(c, OK, "0 = #1 #0");
         answers(c, OK, "0 = #1* #1+");
+        // A full alternative ends with its fourth item, whatever the next one holds.
+        answers(c, OK, "0 = a? b? c? d?", "1 = #0");
+        answers(c, OK, "0 = a b c d", "1 =", "2 = #1");
+        answers(c, OK, fullGrammar("a? b* &c !d"));
+        answers(c, OK, fullGrammar("a b+ . d"));
+    }
+
+    /** As many alternatives as there can be, each with these four items. */
+    private static String[] fullGrammar(String items) {
+        String[] alts = new String[IncrementalPackrat.MAX_ALTS];
+        for (int i = 0; i < alts.length; i++) {
+            alts[i] = i / 2 + " = " + items;
+        }
+        return alts;
     }
 
     private static void badRepeats(Checks c) {

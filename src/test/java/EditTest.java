@@ -19,43 +19,39 @@ public final class EditTest {
         c.due(call + " grammar", x.parse(0, 0), x.textLength() == 0 ? 0 : 1);
     }
 
-    private static void insert(Checks c, String text, int pos, char ch, String want) {
-        String call = "insertChar(" + pos + ", " + ch + ") in '" + text + "'";
-        IncrementalPackrat x = parsed(text);
-        String before = Checks.stateOf(x);
-        c.due(call, x.insertChar(pos, ch), want != null);
+    /** A null for the text that is due stands for a refusal, which leaves the state as it was before. */
+    private static void judge(Checks c, String call, IncrementalPackrat x, boolean answer, String before, String want) {
+        c.due(call, answer, want != null);
         if (want == null) {
             c.due(call + " state", Checks.stateOf(x), before);
             return;
         }
         c.due(call + " text", Checks.textOf(x), want);
         outcomeIsForgotten(c, call, x);
+    }
+
+    private static void insert(Checks c, String text, int pos, char ch, String want) {
+        String call = "insertChar(" + pos + ", " + ch + ") in '" + text + "'";
+        IncrementalPackrat x = parsed(text);
+        String before = Checks.stateOf(x);
+        boolean answer = x.insertChar(pos, ch);
+        judge(c, call, x, answer, before, want);
     }
 
     private static void delete(Checks c, String text, int pos, int len, String want) {
         String call = "deleteRange(" + pos + ", " + len + ") in '" + text + "'";
         IncrementalPackrat x = parsed(text);
         String before = Checks.stateOf(x);
-        c.due(call, x.deleteRange(pos, len), want != null);
-        if (want == null) {
-            c.due(call + " state", Checks.stateOf(x), before);
-            return;
-        }
-        c.due(call + " text", Checks.textOf(x), want);
-        outcomeIsForgotten(c, call, x);
+        boolean answer = x.deleteRange(pos, len);
+        judge(c, call, x, answer, before, want);
     }
 
     private static void replace(Checks c, String text, int pos, int len, String want) {
         String call = "replaceRange(" + pos + ", " + len + ", z) in '" + text + "'";
         IncrementalPackrat x = parsed(text);
         String before = Checks.stateOf(x);
-        c.due(call, x.replaceRange(pos, len, 'z'), want != null);
-        if (want == null) {
-            c.due(call + " state", Checks.stateOf(x), before);
-            return;
-        }
-        c.due(call + " text", Checks.textOf(x), want);
-        outcomeIsForgotten(c, call, x);
+        boolean answer = x.replaceRange(pos, len, 'z');
+        judge(c, call, x, answer, before, want);
     }
 
     private static void inserts(Checks c) {
@@ -118,6 +114,20 @@ public final class EditTest {
         replace(c, "zzz", 1, 1, "zzz");
     }
 
+    private static void atTheGreatestCapacity(Checks c) {
+        IncrementalPackrat x = new IncrementalPackrat(1, 24);
+        Checks.append(x, "abcdefghijklmnopqrstuvwx");
+        c.due("insert into the full text", x.insertChar(24, 'y'), false);
+        c.due("replace in the full text", x.replaceRange(23, 1, 'y'), true);
+        c.due("text", Checks.textOf(x), "abcdefghijklmnopqrstuvwy");
+        c.due("delete from the full text", x.deleteRange(0, 1), true);
+        c.due("text", Checks.textOf(x), "bcdefghijklmnopqrstuvwy");
+        c.due("insert into the last place", x.insertChar(0, 'z'), true);
+        c.due("text", Checks.textOf(x), "zbcdefghijklmnopqrstuvwy");
+        c.due("delete the last chars", x.deleteRange(20, 4), true);
+        c.due("text", Checks.textOf(x), "zbcdefghijklmnopqrst");
+    }
+
     private static void inEitherPhase(Checks c) {
         IncrementalPackrat x = Grammars.building(1, 8, "0 = a");
         c.due("insert while building", x.insertChar(0, 'a'), true);
@@ -173,6 +183,7 @@ public final class EditTest {
         inserts(c);
         deletes(c);
         replaces(c);
+        atTheGreatestCapacity(c);
         inEitherPhase(c);
         reading(c);
         readingChangesNothing(c);

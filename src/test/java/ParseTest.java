@@ -25,6 +25,11 @@ public final class ParseTest {
         parses(c, "aaab", 0, 3, 3, "0 = a*");
         parses(c, "aaab", 3, 3, 3, "0 = a*");
         parses(c, "aaa", 1, 3, 3, "0 = a*");
+        // As many tests as there can be: one for each char, and one at the text's end.
+        parses(c, "aaa", 0, 3, 3, "0 = a*");
+        parses(c, "aaaaaaaaaaaaaaaaaaaaaaaa", 0, 24, 24, "0 = a+");
+        parses(c, "", 0, 0, 0, "0 = a*");
+        parses(c, "", 0, FAIL, 0, "0 = a+");
         parses(c, "aaab", 0, 3, 3, "0 = a+");
         parses(c, "aaab", 3, FAIL, 3, "0 = a+");
         parses(c, "aaab", 2, 3, 3, "0 = a+");
@@ -46,6 +51,8 @@ public final class ParseTest {
         parses(c, "abac", 0, 2, 3, "0 = #1*", pair);
         parses(c, "abab", 0, 4, 4, "0 = #1*", pair);
         parses(c, "ac", 0, 0, 1, "0 = #1*", pair);
+        parses(c, "aaa", 0, 3, 3, "0 = #1*", "1 = a");
+        parses(c, "", 0, 0, 0, "0 = #1*", "1 = a");
         parses(c, "aba", 0, 2, 3, "0 = #1+", pair);
         parses(c, "ac", 0, FAIL, 1, "0 = #1+", pair);
         parses(c, "abx", 0, 0, 1, "0 = &#1", pair);

@@ -42,6 +42,8 @@ public final class TreeTest {
         // A failed alternative leaves none of its nodes.
         tree(c, "ac", 0, "2 0:0-2^-1 2:0-2^0", "0 = #1 b", "0 = #2", "1 = a", "2 = a c");
         tree(c, "ac", 0, "1 0:0-2^-1", "0 = #1 b", "0 = a c", "1 = a");
+        // A full alternative ends with its fourth item, whatever the next one holds.
+        tree(c, "aaaa", 0, "5 0:0-4^-1 1:0-1^0 1:1-2^0 1:2-3^0 1:3-4^0", "0 = #1 #1 #1 #1", "2 = #3", "1 = a", "3 =");
         // An empty match is a node.
         tree(c, "x", 1, "3 0:1-1^-1 1:1-1^0 1:1-1^0", "0 = #1 #1", "1 =");
         tree(c, "x", 0, "2 0:0-1^-1 1:0-0^0", "0 = #1? x", "1 = y?");
