@@ -54,6 +54,23 @@ final class Grammars {
         return x.addItem(IncrementalPackrat.KIND_CHAR, base.charAt(0), 0, mode);
     }
 
+    /** Which of the chars 0, 96..99, 65534, 65535 and of the text's end one such item matches. */
+    static String matched(int kind, int a, int b) {
+        IncrementalPackrat x = new IncrementalPackrat(2, 8);
+        x.newAlt(0);
+        require(x.addItem(kind, a, b, IncrementalPackrat.MODE_ONE) == 0, "item");
+        x.compile();
+        int[] chars = {0, 96, 97, 98, 99, 65534, 65535};
+        for (int i = 0; i < chars.length; i++) {
+            x.insertChar(i, (char) chars[i]);
+        }
+        StringBuilder s = new StringBuilder();
+        for (int i = 0; i <= chars.length; i++) {
+            s.append(x.parse(0, i) == i + 1 ? 'y' : 'n');
+        }
+        return s.toString();
+    }
+
     private static void require(boolean holds, String what) {
         if (!holds) {
             throw new IllegalStateException("a test's own grammar was refused: " + what);

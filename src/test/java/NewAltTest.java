@@ -1,75 +1,167 @@
 /** Promise 2: newAlt creates an alternative. */
 public final class NewAltTest {
-    private static void numbers(Checks c) {
+    private static final int CHAR = IncrementalPackrat.KIND_CHAR;
+    private static final int ONE = IncrementalPackrat.MODE_ONE;
+
+    private final Checks c = new Checks("NewAltTest");
+
+    private void emptyAndLast() {
+        c.sentence("newAlt(r) creates an empty alternative appended last to rule r's alternatives;");
+        IncrementalPackrat x = Grammars.compiled(2, 8, "0 = a", "1 = .+", "0 = . .", "1 =", "0 = c");
+        Checks.append(x, "abc");
+        c.due("rule 0 at a: its first alternative, not the longer second", x.parse(0, 0), 1);
+        c.due("rule 0 at b: its second alternative", x.parse(0, 1), 3);
+        c.due("rule 0 at c: its third alternative", x.parse(0, 2), 3);
+        c.due("rule 0 at the end: none", x.parse(0, 3), IncrementalPackrat.PARSE_FAIL);
+        c.due("rule 1 at a: its first alternative", x.parse(1, 0), 3);
+        c.due("rule 1 at the end: its empty one", x.parse(1, 3), 3);
+        IncrementalPackrat y = Grammars.building(1, 8, "0 = a b c d");
+        y.newAlt(0);
+        y.compile();
+        c.due("an alternative behind a full one is empty", y.parse(0, 0), 0);
+    }
+
+    private void becomesCurrent() {
+        c.sentence("it becomes the current alternative.");
+        IncrementalPackrat x = Grammars.building(2, 8, "0 = a");
+        x.newAlt(1);
+        c.due("first item of the second alternative", x.addItem(CHAR, 'b', 0, ONE), 0);
+        x.newAlt(0);
+        c.due("first item of the third, of an older rule", x.addItem(CHAR, 'c', 0, ONE), 0);
+        c.due("its second item", x.addItem(CHAR, 'd', 0, ONE), 1);
+        x.compile();
+        Checks.append(x, "abcd");
+        c.due("rule 0 at a", x.parse(0, 0), 1);
+        c.due("rule 0 at b", x.parse(0, 1), IncrementalPackrat.PARSE_FAIL);
+        c.due("rule 0 at c d", x.parse(0, 2), 4);
+        c.due("rule 1 at b", x.parse(1, 1), 2);
+    }
+
+    private void refusedWhenFrozen() {
+        c.sentence("each answering -1: 1. the phase is FROZEN;");
+        for (int r = -1; r <= Scenes.RULES; r++) {
+            int rule = r;
+            for (int scene : Scenes.FROZEN_ONES) {
+                Traces.none(c, "newAlt(" + r + ") " + Scenes.name(scene), () -> Scenes.make(scene, "abca"),
+                    x -> x.newAlt(rule), -1);
+            }
+        }
+        Traces.none(c, "newAlt(0) when frozen without any alternative", () -> Grammars.compiled(1, 8),
+            x -> x.newAlt(0), -1);
+    }
+
+    private void refusedOutsideTheRules() {
+        c.sentence("each answering -1: 2. r < 0 or r >= R;");
+        for (int rules = 1; rules <= 8; rules++) {
+            for (int r : Numbers.outside(0, rules - 1)) {
+                IncrementalPackrat x = new IncrementalPackrat(rules, 8);
+                c.due("newAlt(" + r + ") of " + rules + " rules", x.newAlt(r), -1);
+                c.due("the next one is the first", x.newAlt(rules - 1), 0);
+            }
+            c.due("newAlt(0) of " + rules + " rules", new IncrementalPackrat(rules, 8).newAlt(0), 0);
+        }
+    }
+
+    /** How many alternatives fit if they go to the rules first..last in turns. */
+    private static int room(int first, int last) {
+        IncrementalPackrat x = new IncrementalPackrat(8, 8);
+        int count = 0;
+        while (count < 100 && x.newAlt(first + count % (last - first + 1)) == count) {
+            count++;
+        }
+        return count;
+    }
+
+    private void refusedAboveSixteen() {
+        c.sentence("each answering -1: 3. 16 alternatives already exist (counting all rules together).");
+        for (int last = 0; last < 8; last++) {
+            c.due("room in the rules 0 to " + last, room(0, last), 16);
+            c.due("room in rule " + last, room(last, last), 16);
+        }
+        IncrementalPackrat x = full();
+        for (int r = -1; r <= 3; r++) {
+            c.due("the seventeenth, for rule " + r, x.newAlt(r), -1);
+        }
+    }
+
+    /** Sixteen alternatives, the last one with one item. */
+    private static IncrementalPackrat full() {
         IncrementalPackrat x = new IncrementalPackrat(3, 8);
-        c.due("below the rules", x.newAlt(-1), -1);
-        c.due("above the rules", x.newAlt(3), -1);
-        c.due("least int", x.newAlt(Integer.MIN_VALUE), -1);
-        c.due("greatest int", x.newAlt(Integer.MAX_VALUE), -1);
-        c.due("a refused call makes nothing current", x.addItem(2, 0, 0, 0), -1);
         for (int i = 0; i < 16; i++) {
-            c.due("alternative " + i, x.newAlt(i % 3), i);
+            x.newAlt(i % 3);
+            x.addItem(CHAR, 'a' + i, 0, ONE);
+        }
+        Checks.append(x, "abcpon");
+        return x;
+    }
+
+    private void severalConditions() {
+        c.sentence("The conditions are applied in this order, each answering -1:");
+        for (int r : Numbers.outside(0, 2)) {
+            Traces.none(c, "newAlt(" + r + ") as the seventeenth", NewAltTest::full, x -> x.newAlt(r), -1);
+            Traces.none(c, "newAlt(" + r + ") as the seventeenth when frozen", NewAltTest::fullAndFrozen,
+                x -> x.newAlt(r), -1);
+        }
+        Traces.none(c, "newAlt(0) as the seventeenth when frozen", NewAltTest::fullAndFrozen, x -> x.newAlt(0), -1);
+    }
+
+    private static IncrementalPackrat fullAndFrozen() {
+        IncrementalPackrat x = full();
+        x.compile();
+        x.parse(0, 0);
+        return x;
+    }
+
+    private void answersTheCount() {
+        c.sentence("Otherwise the answer is the new alternative's number: the count of alternatives created"
+            + " before it (0..15).");
+        IncrementalPackrat x = new IncrementalPackrat(3, 8);
+        for (int i = 0; i < 16; i++) {
+            c.due("a refused one before " + i, x.newAlt(i % 2 == 0 ? -1 : 3), -1);
+            c.due("alternative " + i, x.newAlt(i * 2 % 3), i);
+            x.addItem(CHAR, 'a', 0, ONE);
+            x.addItem(CHAR, 'a', 0, ONE);
+        }
+    }
+
+    private void refusalChangesNothing() {
+        c.sentence("On -1 nothing changes.");
+        for (int r : Numbers.outside(0, Scenes.RULES - 1)) {
+            Traces.noneInAnyScene(c, "newAlt(" + r + ")", "abca", x -> x.newAlt(r), -1);
         }
         for (int r = -1; r <= 3; r++) {
-            c.due("the seventeenth for rule " + r, x.newAlt(r), -1);
+            int rule = r;
+            Traces.none(c, "newAlt(" + r + ") as the seventeenth", NewAltTest::full, x -> x.newAlt(rule), -1);
         }
-        c.due("the last one is still current", x.addItem(2, 0, 0, 0), 0);
+        Traces.none(c, "newAlt(-1) at start", () -> new IncrementalPackrat(2, 8), x -> x.newAlt(-1), -1);
+        Traces.none(c, "newAlt(2) at start", () -> new IncrementalPackrat(2, 8), x -> x.newAlt(2), -1);
     }
 
-    private static void currentIsTheNewest(Checks c) {
-        IncrementalPackrat x = new IncrementalPackrat(2, 8);
-        x.newAlt(0);
-        x.addItem(IncrementalPackrat.KIND_CHAR, 'a', 0, 0);
-        x.newAlt(1);
-        c.due("first item of the second alternative", x.addItem(IncrementalPackrat.KIND_CHAR, 'b', 0, 0), 0);
-        c.due("a refused newAlt", x.newAlt(9), -1);
-        c.due("leaves the current one", x.addItem(IncrementalPackrat.KIND_CHAR, 'c', 0, 0), 1);
-        c.due("compile", x.compile(), IncrementalPackrat.COMPILE_OK);
-        Checks.append(x, "abc");
-        c.due("rule 0 holds a", x.parse(0, 0), 1);
-        c.due("rule 1 holds b c", x.parse(1, 1), 3);
-    }
-
-    /** The alternatives of two rules made in turns: each rule tries its own, oldest first. */
-    private static void order(Checks c) {
-        IncrementalPackrat x = new IncrementalPackrat(2, 8);
-        x.newAlt(0);
-        x.addItem(IncrementalPackrat.KIND_CHAR, 'a', 0, 0);
-        x.newAlt(1);
-        x.addItem(IncrementalPackrat.KIND_ANY, 0, 0, IncrementalPackrat.MODE_PLUS);
-        x.newAlt(0);
-        x.addItem(IncrementalPackrat.KIND_ANY, 0, 0, 0);
-        x.addItem(IncrementalPackrat.KIND_ANY, 0, 0, 0);
-        x.newAlt(1);
-        x.compile();
-        Checks.append(x, "abc");
-        c.due("rule 0 at a: its first alternative", x.parse(0, 0), 1);
-        c.due("rule 0 at b: its second alternative", x.parse(0, 1), 3);
-        c.due("rule 1 at a", x.parse(1, 0), 3);
-        c.due("rule 1 at the end: its empty alternative", x.parse(1, 3), 3);
-    }
-
-    private static void nothingElseChanges(Checks c) {
-        IncrementalPackrat x = new IncrementalPackrat(1, 8);
-        Checks.append(x, "text");
+    private void successChangesNothingElse() {
+        c.sentence("A successful call changes only the set of alternatives and which one is current; the phase, the"
+            + " text, F and K are unchanged.");
+        IncrementalPackrat x = Scenes.make(Scenes.BUILDING, "abca");
         String before = Checks.stateOf(x);
-        x.newAlt(0);
-        x.newAlt(5);
-        c.due("state after newAlt", Checks.stateOf(x), before);
+        for (int i = Scenes.GRAMMAR.length; i < 16; i++) {
+            c.due("alternative " + i, x.newAlt(i % Scenes.RULES), i);
+            c.due("state after it", Checks.stateOf(x), before);
+        }
         x.compile();
-        c.due("rule 0 succeeds on its empty alternative", x.parse(0, 2), 2);
-        before = Checks.stateOf(x);
-        c.due("newAlt when frozen", x.newAlt(0), -1);
-        c.due("newAlt when frozen, bad rule", x.newAlt(1), -1);
-        c.due("state after a refused newAlt", Checks.stateOf(x), before);
+        c.due("the older alternatives are as they were", x.parse(0, 0), 4);
+        c.due("and come first", Checks.treeOf(x), "4 0:0-4^-1 1:0-1^0 2:1-3^0 3:3-4^0");
     }
 
     public static void main(String[] args) {
-        Checks c = new Checks("NewAltTest");
-        numbers(c);
-        currentIsTheNewest(c);
-        order(c);
-        nothingElseChanges(c);
-        c.end();
+        NewAltTest t = new NewAltTest();
+        t.emptyAndLast();
+        t.becomesCurrent();
+        t.refusedWhenFrozen();
+        t.refusedOutsideTheRules();
+        t.refusedAboveSixteen();
+        t.severalConditions();
+        t.answersTheCount();
+        t.refusalChangesNothing();
+        t.successChangesNothingElse();
+        t.c.end();
     }
 }
