@@ -207,7 +207,7 @@ public final class AddItemTest {
         }
         Supplier<IncrementalPackrat> full = () -> {
             IncrementalPackrat x = Grammars.building(Scenes.RULES, 8, "1 = e", "0 = a b c d");
-            Checks.append(x, "abcde");
+            Checks.append(x, "abcabcd");
             return x;
         };
         for (int[] good : GOOD) {
@@ -275,6 +275,10 @@ public final class AddItemTest {
             + " are unchanged.");
         IncrementalPackrat x = Scenes.make(Scenes.BUILDING, "abca");
         String before = Checks.stateOf(x);
+        c.due("isCompiled after building", x.isCompiled(), false);
+        c.due("the text after building", Checks.textOf(x), "abca");
+        c.due("furthest after building", x.furthest(), -1);
+        c.due("nodeCount after building", x.nodeCount(), 0);
         for (int i = 1; i < 4; i++) {
             c.due("item " + i, x.addItem(ANY, 0, 0, IncrementalPackrat.MODE_AND), i);
             c.due("state after it", Checks.stateOf(x), before);
@@ -306,21 +310,8 @@ public final class AddItemTest {
 
     public static void main(String[] args) {
         AddItemTest t = new AddItemTest();
-        t.appends();
-        t.severalConditions();
-        t.refusedWhenFrozen();
-        t.refusedWithoutAlternative();
-        t.kinds();
-        t.modes();
-        t.chars();
-        t.ranges();
-        t.rules();
-        t.fourItems();
-        t.anyIgnoresBoth();
-        t.answersTheIndex();
-        t.refusalChangesNothing();
-        t.successChangesNothingElse();
-        t.anyRuleMayBeNamed();
-        t.c.end();
+        t.c.run(t::appends, t::severalConditions, t::refusedWhenFrozen, t::refusedWithoutAlternative, t::kinds,
+            t::modes, t::chars, t::ranges, t::rules, t::fourItems, t::anyIgnoresBoth, t::answersTheIndex,
+            t::refusalChangesNothing, t::successChangesNothingElse, t::anyRuleMayBeNamed);
     }
 }

@@ -16,6 +16,18 @@ final class Checks {
         this.name = name;
     }
 
+    /** Runs the tests; one that throws counts as failed and does not keep the others from their turn. */
+    void run(Runnable... tests) {
+        for (Runnable test : tests) {
+            try {
+                test.run();
+            } catch (RuntimeException e) {
+                note(false, "a call", e + " at " + e.getStackTrace()[0], "an answer");
+            }
+        }
+        end();
+    }
+
     /** The test of this sentence of the document begins, and the one before it is over. */
     void sentence(String words) {
         closeSentence();

@@ -270,20 +270,8 @@ public final class CompileTest {
 
     public static void main(String[] args) {
         CompileTest t = new CompileTest();
-        t.frozen();
-        t.nullableItems();
-        t.nullableAlternatives();
-        t.nullableRules();
-        t.charsAreNotNullable();
-        t.leastSolution();
-        t.badRepeats();
-        t.badRepeatsComeFirst();
-        t.callsAtStart();
-        t.cycles();
-        t.accepted();
-        t.rejectionChangesNothing();
-        t.extendedAfterRejection();
-        t.keepsTextAndOutcome();
-        t.c.end();
+        t.c.run(t::frozen, t::nullableItems, t::nullableAlternatives, t::nullableRules, t::charsAreNotNullable,
+            t::leastSolution, t::badRepeats, t::badRepeatsComeFirst, t::callsAtStart, t::cycles, t::accepted,
+            t::rejectionChangesNothing, t::extendedAfterRejection, t::keepsTextAndOutcome);
     }
 }

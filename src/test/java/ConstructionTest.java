@@ -126,11 +126,6 @@ public final class ConstructionTest {
 
     public static void main(String[] args) {
         ConstructionTest t = new ConstructionTest();
-        t.rulesAreClamped();
-        t.capacityIsClamped();
-        t.everyIntIsAccepted();
-        t.atStart();
-        t.neverChange();
-        t.c.end();
+        t.c.run(t::rulesAreClamped, t::capacityIsClamped, t::everyIntIsAccepted, t::atStart, t::neverChange);
     }
 }

@@ -3,6 +3,7 @@ public final class DeleteRangeTest {
     private static final String FULL = "abcdefghij";
 
     private final Checks c = new Checks("DeleteRangeTest");
+    private final RangeRefusals refusals = new RangeRefusals(c, "deleteRange", (x, pos, len) -> x.deleteRange(pos, len));
 
     private void deletes(String text, int pos, int len, String want) {
         Edits.done(c, "deleteRange(" + pos + ", " + len + ")", text, x -> x.deleteRange(pos, len), want);
@@ -26,16 +27,14 @@ public final class DeleteRangeTest {
         c.due("what is left", Checks.textOf(x), "abcx");
     }
 
-    private void refusals() {
-        RangeRefusals r = new RangeRefusals(c, "deleteRange", (x, pos, len) -> x.deleteRange(pos, len));
-        r.positionBelow();
-        r.lengthBelow();
-        r.positionAbove();
-        r.lengthAbove();
+    private void refusedAtTheEnd() {
         c.sentence("In particular pos == n is always refused,");
-        r.atTheEnd();
+        refusals.atTheEnd();
+    }
+
+    private void refusedOnTheEmptyText() {
         c.sentence("and so is any call on an empty text.");
-        r.onTheEmptyText();
+        refusals.onTheEmptyText();
     }
 
     private void forgetsTheOutcome() {
@@ -63,10 +62,8 @@ public final class DeleteRangeTest {
 
     public static void main(String[] args) {
         DeleteRangeTest t = new DeleteRangeTest();
-        t.removes();
-        t.refusals();
-        t.forgetsTheOutcome();
-        t.inEitherPhase();
-        t.c.end();
+        RangeRefusals r = t.refusals;
+        t.c.run(t::removes, r::positionBelow, r::lengthBelow, r::positionAbove, r::lengthAbove, t::refusedAtTheEnd,
+            t::refusedOnTheEmptyText, t::forgetsTheOutcome, t::inEitherPhase);
     }
 }

@@ -64,10 +64,6 @@ public final class FurthestTest {
 
     public static void main(String[] args) {
         FurthestTest t = new FurthestTest();
-        t.atStart();
-        t.afterEdits();
-        t.afterParses();
-        t.changesNothing();
-        t.c.end();
+        t.c.run(t::atStart, t::afterEdits, t::afterParses, t::changesNothing);
     }
 }

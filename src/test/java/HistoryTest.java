@@ -64,8 +64,11 @@ public final class HistoryTest {
         IncrementalPackrat x = Grammars.compiled(4, 10, alts);
         history.accept(x);
         c.due(name + ": the text", Checks.textOf(x), text);
+        int last = text.length();
         for (int r = 0; r < 4; r++) {
-            for (int p = 0; p <= text.length(); p++) {
+            for (int k = 0; k <= 2 * last + 1; k++) {
+                // Back through the positions, and forward.
+                int p = k <= last ? last - k : k - last - 1;
                 IncrementalPackrat fresh = Grammars.compiled(4, 10, alts);
                 Checks.append(fresh, text);
                 String call = name + ": parse(" + r + ", " + p + ") of '" + text + "' by " + String.join(" / ", alts);
@@ -110,8 +113,6 @@ public final class HistoryTest {
         x.parse(1, 1);
         x.replaceRange(0, 2, 'c');
         x.parse(2, 0);
-        x.deleteRange(0, 1);
-        x.parse(0, 1);
     }
 
     private void callsBetweenTheBuilding() {
@@ -121,6 +122,7 @@ public final class HistoryTest {
             for (int p = 0; p <= text.length(); p++) {
                 IncrementalPackrat x = builtWith(HistoryTest::editAndParse);
                 IncrementalPackrat fresh = builtWith(y -> { });
+                x.deleteRange(0, x.textLength());
                 Checks.append(x, text);
                 Checks.append(fresh, text);
                 c.due("parse(0, " + p + ") of '" + text + "'", x.parse(0, p), fresh.parse(0, p));
@@ -147,9 +149,6 @@ public final class HistoryTest {
 
     public static void main(String[] args) {
         HistoryTest t = new HistoryTest();
-        t.editsAndParsesBefore();
-        t.callsBetweenTheBuilding();
-        t.largeTreesBefore();
-        t.c.end();
+        t.c.run(t::editsAndParsesBefore, t::callsBetweenTheBuilding, t::largeTreesBefore);
     }
 }

@@ -98,12 +98,7 @@ public final class InsertCharTest {
 
     public static void main(String[] args) {
         InsertCharTest t = new InsertCharTest();
-        t.insertsBefore();
-        t.refusedBelow();
-        t.refusedAbove();
-        t.refusedWhenFull();
-        t.inEitherPhase();
-        t.forgetsTheOutcome();
-        t.c.end();
+        t.c.run(t::insertsBefore, t::refusedBelow, t::refusedAbove, t::refusedWhenFull, t::inEitherPhase,
+            t::forgetsTheOutcome);
     }
 }

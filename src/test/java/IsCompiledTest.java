@@ -15,9 +15,9 @@ public final class IsCompiledTest {
         c.due("after a refused parse", x.isCompiled(), false);
         x.compile();
         c.due("after a bad repeat", x.isCompiled(), false);
-        x.addItem(IncrementalPackrat.KIND_RULE, 0, 0, IncrementalPackrat.MODE_ONE);
-        x.compile();
-        c.due("after a left recursion", x.isCompiled(), false);
+        IncrementalPackrat recursive = Grammars.building(2, 8, "0 = #0");
+        recursive.compile();
+        c.due("after a left recursion", recursive.isCompiled(), false);
 
         IncrementalPackrat y = Grammars.building(2, 8, "0 = #1*", "1 = a");
         y.compile();
@@ -46,8 +46,6 @@ public final class IsCompiledTest {
 
     public static void main(String[] args) {
         IsCompiledTest t = new IsCompiledTest();
-        t.tellsThePhase();
-        t.changesNothing();
-        t.c.end();
+        t.c.run(t::tellsThePhase, t::changesNothing);
     }
 }

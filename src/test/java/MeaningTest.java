@@ -8,23 +8,36 @@ public final class MeaningTest {
 
     private final Checks c = new Checks("MeaningTest");
 
-    private void bases() {
+    private void matches(int kind, int a, int b, String want) {
+        c.due("kind " + kind + " of " + a + ", " + b, Grammars.matched(kind, a, b), want);
+    }
+
+    private void charBase() {
         c.sentence("KIND_CHAR c: one char equal to c;");
-        c.due("char 97", Grammars.matched(IncrementalPackrat.KIND_CHAR, 97, 0), "nnynnnnn");
-        c.due("char 0", Grammars.matched(IncrementalPackrat.KIND_CHAR, 0, 0), "ynnnnnnn");
-        c.due("char 65535", Grammars.matched(IncrementalPackrat.KIND_CHAR, 65535, 0), "nnnnnnyn");
+        matches(IncrementalPackrat.KIND_CHAR, 97, 0, "nnynnnnn");
+        matches(IncrementalPackrat.KIND_CHAR, 0, 0, "ynnnnnnn");
+        matches(IncrementalPackrat.KIND_CHAR, 65535, 0, "nnnnnnyn");
+    }
+
+    private void rangeBase() {
         c.sentence("KIND_RANGE lo, hi: one char ch with lo <= ch <= hi;");
-        c.due("range 97..98", Grammars.matched(IncrementalPackrat.KIND_RANGE, 97, 98), "nnyynnnn");
-        c.due("range 98..98", Grammars.matched(IncrementalPackrat.KIND_RANGE, 98, 98), "nnnynnnn");
-        c.due("range 0..0", Grammars.matched(IncrementalPackrat.KIND_RANGE, 0, 0), "ynnnnnnn");
-        c.due("range 0..96", Grammars.matched(IncrementalPackrat.KIND_RANGE, 0, 96), "yynnnnnn");
-        c.due("range 0..65535", Grammars.matched(IncrementalPackrat.KIND_RANGE, 0, 65535), "yyyyyyyn");
-        c.due("range 98..65534", Grammars.matched(IncrementalPackrat.KIND_RANGE, 98, 65534), "nnnyyynn");
-        c.due("range 65535..65535", Grammars.matched(IncrementalPackrat.KIND_RANGE, 65535, 65535), "nnnnnnyn");
+        matches(IncrementalPackrat.KIND_RANGE, 97, 98, "nnyynnnn");
+        matches(IncrementalPackrat.KIND_RANGE, 98, 98, "nnnynnnn");
+        matches(IncrementalPackrat.KIND_RANGE, 0, 0, "ynnnnnnn");
+        matches(IncrementalPackrat.KIND_RANGE, 0, 96, "yynnnnnn");
+        matches(IncrementalPackrat.KIND_RANGE, 0, 65535, "yyyyyyyn");
+        matches(IncrementalPackrat.KIND_RANGE, 98, 65534, "nnnyyynn");
+        matches(IncrementalPackrat.KIND_RANGE, 65535, 65535, "nnnnnnyn");
+    }
+
+    private void anyBase() {
         c.sentence("KIND_ANY: any one char;");
-        c.due("any", Grammars.matched(IncrementalPackrat.KIND_ANY, 0, 0), "yyyyyyyn");
+        matches(IncrementalPackrat.KIND_ANY, 0, 0, "yyyyyyyn");
+    }
+
+    private void ruleBase() {
         c.sentence("KIND_RULE s: an invocation of rule s.");
-        c.due("a rule that fails", Grammars.matched(IncrementalPackrat.KIND_RULE, 1, 0), "nnnnnnnn");
+        matches(IncrementalPackrat.KIND_RULE, 1, 0, "nnnnnnnn");
         c.parses("xy", 0, 2, 1, "0 = #7", "7 = x y");
     }
 
@@ -331,29 +344,10 @@ public final class MeaningTest {
 
     public static void main(String[] args) {
         MeaningTest t = new MeaningTest();
-        t.bases();
-        t.testsOfChars();
-        t.testsOfRules();
-        t.eachTestWhereTheLastEnded();
-        t.one();
-        t.opt();
-        t.star();
-        t.plus();
-        t.and();
-        t.not();
-        t.itemExaminesTheUnion();
-        t.itemsInOrder();
-        t.firstFailingItem();
-        t.allItemsSucceed();
-        t.emptyAlternative();
-        t.alternativeExaminesTheUnion();
-        t.everyPosition();
-        t.firstSuccessWins();
-        t.unionOverAlternatives();
-        t.noAlternative();
-        t.finiteEverywhere();
-        t.editsForget();
-        t.refusedCalls();
-        t.c.end();
+        t.c.run(t::charBase, t::rangeBase, t::anyBase, t::ruleBase, t::testsOfChars, t::testsOfRules,
+            t::eachTestWhereTheLastEnded, t::one, t::opt, t::star, t::plus, t::and, t::not, t::itemExaminesTheUnion,
+            t::itemsInOrder, t::firstFailingItem, t::allItemsSucceed, t::emptyAlternative,
+            t::alternativeExaminesTheUnion, t::everyPosition, t::firstSuccessWins, t::unionOverAlternatives,
+            t::noAlternative, t::finiteEverywhere, t::editsForget, t::refusedCalls);
     }
 }

@@ -142,6 +142,10 @@ public final class NewAltTest {
             + " text, F and K are unchanged.");
         IncrementalPackrat x = Scenes.make(Scenes.BUILDING, "abca");
         String before = Checks.stateOf(x);
+        c.due("isCompiled after building", x.isCompiled(), false);
+        c.due("the text after building", Checks.textOf(x), "abca");
+        c.due("furthest after building", x.furthest(), -1);
+        c.due("nodeCount after building", x.nodeCount(), 0);
         for (int i = Scenes.GRAMMAR.length; i < 16; i++) {
             c.due("alternative " + i, x.newAlt(i % Scenes.RULES), i);
             c.due("state after it", Checks.stateOf(x), before);
@@ -153,15 +157,8 @@ public final class NewAltTest {
 
     public static void main(String[] args) {
         NewAltTest t = new NewAltTest();
-        t.emptyAndLast();
-        t.becomesCurrent();
-        t.refusedWhenFrozen();
-        t.refusedOutsideTheRules();
-        t.refusedAboveSixteen();
-        t.severalConditions();
-        t.answersTheCount();
-        t.refusalChangesNothing();
-        t.successChangesNothingElse();
-        t.c.end();
+        t.c.run(t::emptyAndLast, t::becomesCurrent, t::refusedWhenFrozen, t::refusedOutsideTheRules,
+            t::refusedAboveSixteen, t::severalConditions, t::answersTheCount, t::refusalChangesNothing,
+            t::successChangesNothingElse);
     }
 }

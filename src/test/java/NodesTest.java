@@ -183,16 +183,7 @@ public final class NodesTest {
 
     public static void main(String[] args) {
         NodesTest t = new NodesTest();
-        t.counts();
-        t.countsNothing();
-        t.countsAtLeastOne();
-        t.refusedCallsKeepTheCount();
-        t.countChangesNothing();
-        t.accessors();
-        t.otherNumbers();
-        t.root();
-        t.smallerParents();
-        t.accessorsChangeNothing();
-        t.c.end();
+        t.c.run(t::counts, t::countsNothing, t::countsAtLeastOne, t::refusedCallsKeepTheCount, t::countChangesNothing,
+            t::accessors, t::otherNumbers, t::root, t::smallerParents, t::accessorsChangeNothing);
     }
 }

@@ -246,21 +246,9 @@ public final class ParseTest {
 
     public static void main(String[] args) {
         ParseTest t = new ParseTest();
-        t.onTheCurrentText();
-        t.refusedWhileBuilding();
-        t.refusedOutsideTheRules();
-        t.refusedBeforeTheText();
-        t.refusedBehindTheText();
-        t.refusalKeepsTheOutcome();
-        t.greatestPosition();
-        t.failedAlternatives();
-        t.predicates();
-        t.failingFinalTests();
-        t.atTheTextsEnd();
-        t.nothingExamined();
-        t.success();
-        t.failure();
-        t.changesNothingElse();
-        t.c.end();
+        t.c.run(t::onTheCurrentText, t::refusedWhileBuilding, t::refusedOutsideTheRules, t::refusedBeforeTheText,
+            t::refusedBehindTheText, t::refusalKeepsTheOutcome, t::greatestPosition, t::failedAlternatives,
+            t::predicates, t::failingFinalTests, t::atTheTextsEnd, t::nothingExamined, t::success, t::failure,
+            t::changesNothingElse);
     }
 }

@@ -83,11 +83,6 @@ public final class ReadTextTest {
 
     public static void main(String[] args) {
         ReadTextTest t = new ReadTextTest();
-        t.lengths();
-        t.lengthChangesNothing();
-        t.charValues();
-        t.outsideTheText();
-        t.charChangesNothing();
-        t.c.end();
+        t.c.run(t::lengths, t::lengthChangesNothing, t::charValues, t::outsideTheText, t::charChangesNothing);
     }
 }

@@ -3,9 +3,12 @@ public final class ReplaceRangeTest {
     private static final String FULL = "abcdefghij";
 
     private final Checks c = new Checks("ReplaceRangeTest");
+    private final RangeRefusals refusals = new RangeRefusals(c, "replaceRange",
+        (x, pos, len) -> x.replaceRange(pos, len, 'z'));
 
     private void replaces(String text, int pos, int len, char ch, String want) {
-        Edits.done(c, "replaceRange(" + pos + ", " + len + ", " + ch + ")", text, x -> x.replaceRange(pos, len, ch), want);
+        String call = "replaceRange(" + pos + ", " + len + ", " + ch + ")";
+        Edits.done(c, call, text, x -> x.replaceRange(pos, len, ch), want);
     }
 
     private void replacesByOne() {
@@ -39,15 +42,11 @@ public final class ReplaceRangeTest {
         c.due("the char behind", x.charAt(1), 'b');
     }
 
-    private void refusals() {
-        RangeRefusals r = new RangeRefusals(c, "replaceRange", (x, pos, len) -> x.replaceRange(pos, len, 'z'));
-        r.positionBelow();
-        r.lengthBelow();
-        r.positionAbove();
-        r.lengthAbove();
-        // The document says so of deleteRange; of replaceRange it follows from the same conditions.
-        r.atTheEnd();
-        r.onTheEmptyText();
+    /** The document says so of deleteRange; of replaceRange it follows from the same conditions. */
+    private void refusedAtTheEnd() {
+        c.sentence("It is refused, answering false, if [..] len < 1, pos > n, or len > n - pos; then nothing changes.");
+        refusals.atTheEnd();
+        refusals.onTheEmptyText();
     }
 
     private void forgetsTheOutcome() {
@@ -85,12 +84,8 @@ public final class ReplaceRangeTest {
 
     public static void main(String[] args) {
         ReplaceRangeTest t = new ReplaceRangeTest();
-        t.replacesByOne();
-        t.replacesOneChar();
-        t.refusals();
-        t.forgetsTheOutcome();
-        t.bySameText();
-        t.inEitherPhase();
-        t.c.end();
+        RangeRefusals r = t.refusals;
+        t.c.run(t::replacesByOne, t::replacesOneChar, r::positionBelow, r::lengthBelow, r::positionAbove, r::lengthAbove,
+            t::refusedAtTheEnd, t::forgetsTheOutcome, t::bySameText, t::inEitherPhase);
     }
 }

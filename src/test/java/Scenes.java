@@ -21,8 +21,10 @@ final class Scenes {
     }
 
     static IncrementalPackrat make(int scene, String text) {
-        IncrementalPackrat x = Grammars.building(RULES, CAPACITY, GRAMMAR);
+        IncrementalPackrat x = new IncrementalPackrat(RULES, CAPACITY);
+        // The text comes first, so that no edit can have touched the grammar.
         Checks.append(x, text);
+        Grammars.add(x, GRAMMAR);
         if (scene != BUILDING) {
             require(x.compile() == IncrementalPackrat.COMPILE_OK);
         }

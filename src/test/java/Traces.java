@@ -1,4 +1,7 @@
+import java.util.LinkedHashMap;
+import java.util.Map;
 import java.util.function.Function;
+import java.util.function.IntUnaryOperator;
 import java.util.function.Supplier;
 
 /**
@@ -7,15 +10,38 @@ import java.util.function.Supplier;
  * tells, come to light in later answers.
  */
 final class Traces {
-    private static final String[] FOLLOWERS = {"reading", "editing", "compiling and parsing", "building on"};
+    private interface Follower {
+        String answers(IncrementalPackrat x);
+    }
+
+    /**
+     * Each gets two objects of its own. Those that make one kind of call alone are for the calls
+     * that only read: if one of them changed something, the others would not hide it.
+     */
+    private static final Map<String, Follower> FOLLOWERS = new LinkedHashMap<>();
+
+    static {
+        FOLLOWERS.put("isCompiled", x -> String.valueOf(x.isCompiled()));
+        FOLLOWERS.put("textLength", x -> String.valueOf(x.textLength()));
+        FOLLOWERS.put("charAt", x -> eachOf(x::charAt));
+        FOLLOWERS.put("furthest", x -> String.valueOf(x.furthest()));
+        FOLLOWERS.put("nodeCount", x -> String.valueOf(x.nodeCount()));
+        FOLLOWERS.put("nodeRule", x -> eachOf(x::nodeRule));
+        FOLLOWERS.put("nodeStart", x -> eachOf(x::nodeStart));
+        FOLLOWERS.put("nodeEnd", x -> eachOf(x::nodeEnd));
+        FOLLOWERS.put("nodeParent", x -> eachOf(x::nodeParent));
+        FOLLOWERS.put("reading all", Checks::stateOf);
+        FOLLOWERS.put("editing", Traces::edit);
+        FOLLOWERS.put("compiling and parsing", Traces::parseAll);
+        FOLLOWERS.put("building on", x -> build(x) + parseAll(x));
+    }
 
     private Traces() {
     }
 
     static void alike(Checks c, String what, Supplier<IncrementalPackrat> one, Supplier<IncrementalPackrat> other) {
-        for (String follower : FOLLOWERS) {
-            c.due(what + ", then " + follower, answers(follower, one.get()), answers(follower, other.get()));
-        }
+        FOLLOWERS.forEach((name, follower) ->
+            c.due(what + ", then " + name, follower.answers(one.get()), follower.answers(other.get())));
     }
 
     /** The call answers what is due, and nothing is changed by it. */
@@ -37,25 +63,16 @@ final class Traces {
         }
     }
 
-    private static String answers(String follower, IncrementalPackrat x) {
+    private static String eachOf(IntUnaryOperator accessor) {
         StringBuilder s = new StringBuilder();
-        switch (follower) {
-            case "reading":
-                return Checks.stateOf(x);
-            case "editing":
-                edit(x, s);
-                break;
-            case "building on":
-                build(x, s);
-                parseAll(x, s);
-                break;
-            default:
-                parseAll(x, s);
+        for (int i = -2; i <= 66; i++) {
+            s.append(' ').append(accessor.applyAsInt(i));
         }
         return s.toString();
     }
 
-    private static void edit(IncrementalPackrat x, StringBuilder s) {
+    private static String edit(IncrementalPackrat x) {
+        StringBuilder s = new StringBuilder();
         s.append(x.insertChar(0, 'b')).append(Checks.stateOf(x));
         s.append(x.insertChar(x.textLength(), 'c')).append(Checks.stateOf(x));
         s.append(x.deleteRange(0, 1)).append(Checks.stateOf(x));
@@ -65,9 +82,11 @@ final class Traces {
         }
         s.append(Checks.stateOf(x));
         s.append(x.deleteRange(0, x.textLength())).append(Checks.stateOf(x));
+        return s.toString();
     }
 
-    private static void build(IncrementalPackrat x, StringBuilder s) {
+    private static String build(IncrementalPackrat x) {
+        StringBuilder s = new StringBuilder();
         for (int i = 0; i <= IncrementalPackrat.MAX_ITEMS; i++) {
             s.append(' ').append(x.addItem(IncrementalPackrat.KIND_CHAR, 'a', 0, IncrementalPackrat.MODE_ONE));
         }
@@ -75,10 +94,11 @@ final class Traces {
             s.append(' ').append(x.newAlt(i % 9));
             s.append(' ').append(x.addItem(IncrementalPackrat.KIND_RANGE, 'a' + i, 'z', IncrementalPackrat.MODE_PLUS));
         }
-        s.append(Checks.stateOf(x));
+        return s.append(Checks.stateOf(x)).toString();
     }
 
-    private static void parseAll(IncrementalPackrat x, StringBuilder s) {
+    private static String parseAll(IncrementalPackrat x) {
+        StringBuilder s = new StringBuilder();
         s.append(' ').append(x.compile()).append(' ').append(x.isCompiled());
         for (int r = -1; r <= 8; r++) {
             for (int p = -1; p <= x.textLength() + 1; p++) {
@@ -86,6 +106,6 @@ final class Traces {
                 s.append(Checks.treeOf(x));
             }
         }
-        s.append(Checks.stateOf(x));
+        return s.append(Checks.stateOf(x)).toString();
     }
 }

@@ -130,14 +130,7 @@ public final class TreeTest {
 
     public static void main(String[] args) {
         TreeTest t = new TreeTest();
-        t.root();
-        t.firstSucceedingAlternative();
-        t.modesThatGiveNodes();
-        t.itemsAndTestsInOrder();
-        t.noNodes();
-        t.preorder();
-        t.parents();
-        t.onlySixtyFourAreStored();
-        t.c.end();
+        t.c.run(t::root, t::firstSucceedingAlternative, t::modesThatGiveNodes, t::itemsAndTestsInOrder, t::noNodes,
+            t::preorder, t::parents, t::onlySixtyFourAreStored);
     }
 }
