@@ -220,6 +220,15 @@ public final class CompileTest {
         }
     }
 
+    /** One more char in the last alternative, and the same grammar is accepted. */
+    private void mended(int answer, String... alts) {
+        IncrementalPackrat x = Grammars.building(8, 8, alts);
+        String name = String.join(" / ", alts);
+        c.due("compile of " + name, x.compile(), answer);
+        c.due("an item to " + name, x.addItem(IncrementalPackrat.KIND_CHAR, 'b', 0, IncrementalPackrat.MODE_ONE), 1);
+        c.due("compile again of " + name, x.compile(), OK);
+    }
+
     private void extendedAfterRejection() {
         c.sentence("the phase stays as it was, so after a rejection in BUILDING the grammar can still be extended and"
             + " compiled again.");
@@ -238,6 +247,12 @@ public final class CompileTest {
         c.due("item after rejection", y.addItem(IncrementalPackrat.KIND_CHAR, 'b', 0, 0), 1);
         c.due("the call is not at start any more", y.compile(), OK);
         c.due("parse", y.parse(0, 0), 3);
+
+        for (int r = 0; r < 8; r++) {
+            int s = (r + 1) % 8;
+            mended(BAD_REPEAT, s + " = x #" + r + "*", r + " = a?");
+            mended(LEFT_RECURSION, s + " = #" + r + " #" + s, r + " = a?");
+        }
 
         IncrementalPackrat z = rejected("0 = #0");
         c.due("left recursion of one rule", z.compile(), LEFT_RECURSION);

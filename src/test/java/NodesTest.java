@@ -30,7 +30,8 @@ public final class NodesTest {
     }
 
     private void counts() {
-        c.sentence("nodeCount() answers K, the number of nodes of the stored tree, if K <= 64, and answers 65 if K > 64.");
+        c.sentence("nodeCount() answers K, the number of nodes of the stored tree, if K <= 64, and answers 65 if"
+            + " K > 64.");
         for (int count = 1; count <= 71; count++) {
             c.due("K = " + count, withNodes(count).nodeCount(), count <= 64 ? count : 65);
         }
